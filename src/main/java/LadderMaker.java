@@ -467,11 +467,11 @@ public final class LadderMaker {
         private final long[] numbers = new long[POWERS];
 
         long at(int power) {
-            return isPower(power) ? numbers[power] : 0;
+            return power >= 0 && power < POWERS ? numbers[power] : 0;
         }
 
         void put(int power, long v) {
-            if (isPower(power)) {
+            if (power >= 0 && power < POWERS) {
                 numbers[power] = v;
             }
         }
@@ -528,10 +528,10 @@ public final class LadderMaker {
         }
 
         void runBackwards(int greatest) {
-            for (int low = 0, high = greatest; low < high && isPower(high); low++, high--) {
-                long spare = numbers[low];
-                numbers[low] = numbers[high];
-                numbers[high] = spare;
+            for (int low = 0; low < POWERS && low < greatest - low; low++) {
+                long spare = at(low);
+                put(low, at(greatest - low));
+                put(greatest - low, spare);
             }
         }
 
@@ -650,7 +650,10 @@ public final class LadderMaker {
             return true;
         }
 
-        /** BELOW, and ABOVE less K times BELOW moved up by so many powers, AS A PAIR. */
+        /**
+         * Becomes BELOW by (ABOVE less K times BELOW moved up by so many powers), both times K's
+         * below, so that numbers stay whole.
+         */
         void goOn(Fraction k, int up) {
             above.multiplyBy(k.below);
             for (int i = 0; i < POWERS; i++) {
@@ -658,7 +661,6 @@ public final class LadderMaker {
             }
             below.multiplyBy(k.below);
             swap();
-            becomeAsPair();
         }
     }
 
@@ -674,8 +676,8 @@ public final class LadderMaker {
 
         int valueCount() {
             int many = 0;
-            for (int k = 0; k < armCount; k++) {
-                many += (item(k, 1) != 0 ? 1 : 0) + (item(k, 3) != 0 ? 1 : 0);
+            for (int k = 0; k < armCount && k < MOST_VALUES; k++) {
+                many += (arms[k][1] != 0 ? 1 : 0) + (arms[k][3] != 0 ? 1 : 0);
             }
             return many;
         }
@@ -828,6 +830,8 @@ public final class LadderMaker {
                     addFalling(place);
                 }
                 work.goOn(k, up);
+                // the same factor in both changes no K, and without it numbers stay small
+                work.becomeAsPair();
                 place = SHUNT - place;
             }
             return built.valueCount();
