@@ -113,6 +113,11 @@ public final class LadderTest {
         unfolds("way 2, a common s", Check.row(0, 0, 3), Check.row(0, 0, 0, 1), 2, 1, 0, 0, 0, 1, 3);
         unfolds("way 2, a pole that goes out", Check.row(0, 1, 0, 1), Check.row(4, 0, 5, 0, 1), 2, 2, 0, 1, 4, 1, 1);
         unfolds("way 2, the least p first", Check.row(0, 5, 0, 2), Check.row(4, 0, 5, 0, 1), 2, 4, 0, 1, 1, 1, 1, 0, 1, 4, 1, 1);
+        unfolds("way 2, p 1 by 2 ahead of p 1", Check.row(0, 3, 0, 4), Check.row(1, 0, 3, 0, 2), 2, 4, 0, 2, 1, 1, 1, 0, 1, 1, 1, 1);
+        unfolds("way 2, p twice ahead of p 1", Check.row(0, 1), Check.row(1, 0, 5, 0, 8, 0, 4), 2, -102);
+        unfolds("way 2, p 9", Check.row(0, 1), Check.row(9, 0, 1), 2, 2, 0, 1, 9, 1, 1);
+        unfolds("way 2, p 1 by 9", Check.row(0, 1), Check.row(1, 0, 9), 2, 2, 0, 1, 1, 9, 1);
+        unfolds("way 2, p - 9", Check.row(0, 1), Check.row(-9, 0, 1), 2, -102);
         unfolds("way 2, DARK ahead of STEPS", Check.row(0, -1, 0, 0, 0, 0, 0), Check.row(1, 0, 3, 0, 1), 2, -6);
         unfolds("way 2, no real poles", Check.row(0, 1), Check.row(1, 0, 1, 0, 1), 2, -6);
         unfolds("way 2, DARK with one that is none", Check.row(0, 1), Check.row(2, 0, 3, 0, 2, 0, 1), 2, -6);

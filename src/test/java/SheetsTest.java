@@ -91,6 +91,13 @@ public final class SheetsTest {
         rowIs(x, 0, 2, 3, 4, 3, 4);
         rowIs(x, 1, 2, 3, 4);
         check.due("count(8)", x.count(8), 2);
+        x.sheet(0, 40);
+        x.sheet(1, 40);
+        x.lay(0, 0, 7);
+        x.lay(0, 39, 8);
+        check.due("all of forty", x.copy(0, 0, 1, 0, 40), 1);
+        check.due("get(1, 0)", x.get(1, 0), 7);
+        check.due("get(1, 39)", x.get(1, 39), 8);
     }
 
     private static void copyRefused() {
