@@ -849,12 +849,12 @@ public final class LadderMaker {
             if (rest.degree() != rest.leastPower()) {
                 return DARK;
             }
-            int refusal = divideByGreatest(place);
+            int refusal = poleAtGreatest(place);
             if (refusal == 0) {
-                refusal = divideByZero(place);
+                refusal = poleAtZero(place);
             }
             for (int i = 0; i < rootCount && refusal == 0; i++) {
-                refusal = divideByRoot(place, i);
+                refusal = poleAtRoot(place, i);
             }
             return refusal == 0 ? built.valueCount() : refusal;
         }
@@ -912,7 +912,7 @@ public final class LadderMaker {
         }
 
         /** STEP 0. */
-        private int divideByGreatest(int place) {
+        private int poleAtGreatest(int place) {
             int above = inX.above.degree();
             int below = inX.below.degree();
             if (above <= below) {
@@ -930,7 +930,7 @@ public final class LadderMaker {
         }
 
         /** STEP 1. */
-        private int divideByZero(int place) {
+        private int poleAtZero(int place) {
             if (inX.below.at(0) == 0) {
                 return unlawful(1);
             }
@@ -949,7 +949,7 @@ public final class LadderMaker {
         }
 
         /** STEPS 2 on. */
-        private int divideByRoot(int place, int i) {
+        private int poleAtRoot(int place, int i) {
             if (i < 0 || i >= MOST_ROOTS || rootAbove[i] <= 0 || rootTimes[i] > 1) {
                 return unlawful(2 + i);
             }
