@@ -173,7 +173,13 @@ public final class LadderMaker {
         if (way < 0 || way >= WAYS) {
             return BAD;
         }
-        return wish.isLawful() ? unfolder.tryWay(wish, way) : NOT;
+        if (!wish.isLawful()) {
+            return NOT;
+        }
+        if (way <= 1) {
+            return unfolder.divideOn(wish, way == 0);
+        }
+        return unfolder.divideByPoles(wish, way == 2 ? SERIES : SHUNT);
     }
 
     public int element(int k, int what) {
@@ -794,21 +800,12 @@ public final class LadderMaker {
         private final int[] rootTimes = new int[MOST_ROOTS];
         private int rootCount = 0;
 
-        /** How many VALUES were built, or the refusal. */
-        int tryWay(Pair wish, int way) {
-            built.clear();
-            work.load(wish);
-            if (way <= 1) {
-                return divideOn(way == 0);
-            }
-            if (way == 3) {
-                work.swap();
-            }
-            return divideByPoles(way == 2 ? SERIES : SHUNT);
-        }
-
-        /** Ways 0 (from the greatest powers) and 1 (from the least). */
-        private int divideOn(boolean greatest) {
+        /**
+         * Ways 0 (from the greatest powers) and 1 (from the least): how many VALUES were built, or
+         * the refusal.
+         */
+        int divideOn(Pair wish, boolean greatest) {
+            begin(wish);
             int up = greatest ? 1 : -1;
             int place = SERIES;
             if ((endOf(work.above, greatest) > endOf(work.below, greatest)) != greatest) {
@@ -837,12 +834,21 @@ public final class LadderMaker {
             return built.valueCount();
         }
 
+        private void begin(Pair wish) {
+            built.clear();
+            work.load(wish);
+        }
+
         private static int endOf(Polynomial p, boolean greatest) {
             return greatest ? p.degree() : p.leastPower();
         }
 
-        /** Ways 2 and 3. */
-        private int divideByPoles(int place) {
+        /** Ways 2 (SERIES) and 3 (SHUNT): as above. */
+        int divideByPoles(Pair wish, int place) {
+            begin(wish);
+            if (place == SHUNT) {
+                work.swap();
+            }
             loadInX();
             findRoots();
             // a power of x times a number is left, if there are no other ROOTS

@@ -193,6 +193,21 @@ public final class CountAndDigestTest extends SentenceRunner {
         return all;
     }
 
+    private void digestIsOfWhatIsTold(LadderMaker x) {
+        long h = 17;
+        for (long n : taken(x)) h = 31 * h + n;
+        due("digest()", x.digest(), h);
+    }
+
+    @Sentence(promise = 30, words = "reactance(1, 1, 0 and 1), reactance(3, 2, 0 and 1)")
+    void promise30_ofReactances() {
+        digestIsOfWhatIsTold(wish(row(1, 0, 3), row(0, 5, 0, 7)));
+        digestIsOfWhatIsTold(wish(row(0, 5, 0, 7, 0, 9), row(2, 0, 8, 0, 0, 0, -1)));
+        // none at 1, none at 3 by 2
+        digestIsOfWhatIsTold(wish(row(0, 1), row(1, 0, 1)));
+        digestIsOfWhatIsTold(wish(row(0, 1), row(9, 0, 4)));
+    }
+
     @Sentence(promise = 30, words = "as longs that wrap.")
     void promise30_wraps() {
         LadderMaker x = full();
@@ -212,8 +227,6 @@ public final class CountAndDigestTest extends SentenceRunner {
             x.tell(1, 1, 1);
             x.keep();
         }
-        long h = 17;
-        for (long n : taken(x)) h = 31 * h + n;
-        due("digest()", x.digest(), h);
+        digestIsOfWhatIsTold(x);
     }
 }

@@ -327,4 +327,15 @@ public final class LadderTest extends SentenceRunner {
         due("2 s by (1 and 10 s s)", ladder(0, 2, 5).take(), -5);
         due("a number of power 6", ladder(0, 9, 9, 0, 9, 9, 0, 9, 9).take(), -5);
     }
+
+    @Sentence(promise = 16, words = "OVER: a number is not -9 to 9.")
+    void promise16_overByTheNumberOfPower0() {
+        // COIL 1 by 2, CAPACITOR 4 by 17, and a COIL 17 by 2 that goes
+        LadderMaker x = wish(row(0, 9, 0, 1), row(1, 0, 2));
+        due("unfold(0)", x.unfold(0), 3);
+        x.back();
+        foldIs("two left", x, row(17, 0, 2), row(0, 4));
+        due("take()", x.take(), -5);
+        wishIs("refused", x, row(0, 9, 0, 1), row(1, 0, 2));
+    }
 }

@@ -272,6 +272,8 @@ public final class UnfoldingTest extends SentenceRunner {
         bothByPoles(row(0, 1), row(1, 0, 3, 0, 3, 0, 1), -102);
         bothByPoles(row(0, 1, 0, 1), row(1, 0, 2, 0, 1), -102);
         bothByPoles(row(0, 1), row(4, 0, 8, 0, 5, 0, 1), -103);
+        // p 1 by 2 and p 1: the greater one twice, the less one twice
+        bothByPoles(row(0, 1), row(1, 0, 4, 0, 5, 0, 2), -103);
         bothByPoles(row(0, 1), row(1, 0, 5, 0, 8, 0, 4), -102);
     }
 
@@ -395,6 +397,9 @@ public final class UnfoldingTest extends SentenceRunner {
             0, 1, 3, 0, 0, 1, 0, 0, 9, 22, 0, 11, 3, 0, 0, 1, 0, 0, 4, 3, 0, 99, 17, 0, 0, 1, 0, 0, 17, 66);
         unfolds(row(0, 3, 0, 5, 0, 2), row(1, 0, 9, 0, 8, 0, 1), 1, 6,
             1, 3, 1, 0, 0, 0, 0, 0, 22, 9, 1, 3, 11, 0, 0, 0, 0, 0, 3, 4, 1, 17, 99, 0, 0, 0, 0, 0, 66, 17);
+        // STEP 1 has 49 by 99, and 99 by 49; were they OVER, STEP 2 would not be come to
+        unfolds(row(0, -9, 0, -6), row(6, 0, -7), 0, -102);
+        unfolds(row(0, 0, 7, 0, -6), row(0, 6, 0, 9), 1, -102);
     }
 
     @Sentence(words = "OVER: a VALUE is not HANDY.")
